@@ -36,6 +36,8 @@ public final class ScissorsBench {
     private final Piece made;
     private final Ring one;
     private final Ring two;
+    private final Ring left;
+    private final Ring right;
     private final Ring[] places;
 
     public ScissorsBench() {
@@ -56,6 +58,8 @@ public final class ScissorsBench {
         made = new Piece();
         one = new Ring(WORK_ROOM);
         two = new Ring(WORK_ROOM);
+        left = new Ring(MOST_CORNERS);
+        right = new Ring(MOST_CORNERS);
         places = new Ring[MOST_PIECES];
         for (int p = 0; p < MOST_PIECES; p++) {
             places[p] = new Ring(MOST_CORNERS);
@@ -151,16 +155,16 @@ public final class ScissorsBench {
         return true;
     }
 
-    /** Cuts a piece that the line crosses, if there is room for the parts; false: a place is not whole. */
+    /** Cuts a piece that the line crosses and does not overfill; false: a place is not whole. */
     private boolean cutOne(Pieces next, int p) {
         Piece piece = next.row[p];
         piece.placeInto(one);
-        if (!line.divide(one)) {
+        if (!line.divide(one, left, right)) {
             return false;
         }
         made.take(piece);
-        made.setPlace(line.right);
-        piece.setPlace(line.left);
+        made.setPlace(right);
+        piece.setPlace(left);
         next.add(made);
         return true;
     }
@@ -737,8 +741,6 @@ public final class ScissorsBench {
 
     /** A line, and what it makes of a ring. */
     private static final class Line {
-        final Ring left = new Ring(WORK_ROOM);
-        final Ring right = new Ring(WORK_ROOM);
         int meetX;
         int meetY;
         private int ax;
@@ -780,7 +782,7 @@ public final class ScissorsBench {
         }
 
         /** Parts a ring into left and right; false: it is parted at a place that is not whole. */
-        boolean divide(Ring ring) {
+        boolean divide(Ring ring, Ring left, Ring right) {
             left.size = 0;
             right.size = 0;
             for (int i = 0; i < ring.size; i++) {
