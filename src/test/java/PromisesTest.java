@@ -1089,6 +1089,22 @@ public final class PromisesTest {
         bench.cut(0, 1, 40, 2);
         due("the first, not whole", bench.third(0), OFF);
 
+        bench = box(1, 1);
+        bench.cut(0, 1, 1, 0);
+        bench.shelve(0);
+        bench.begin(0);
+        bench.cut(0, 0, 1, 1);
+        due("crossing at half a grain", bench.third(0), OFF);
+        bench = begun(100000, -1, -1, 1, -1, 1, 1);
+        bench.shelve(0);
+        told(bench, 1, 100000, -1, 1, 1, -1, 1, 1);
+        bench.begin(1);
+        due("crossing in the middle of all", bench.third(0), 1);
+        dueCorners(bench, 0, 0, 0, 0, 100000, -100000, 100000, 100000);
+        told(bench, 1, 1, -100000, 99999, 100000, -100000, 100000, 100000);
+        bench.begin(1);
+        due("crossing beside it", bench.third(0), OFF);
+
         due("none laid", bench.third(1), NO);
         due("k -1", bench.third(-1), BAD);
         due("k 4", bench.third(4), BAD);
