@@ -1,20 +1,5 @@
 /** Each promise by hand: ordinary inputs, the edges that the document names, wrong inputs. */
-public final class PromisesTest {
-    private static final long BAD = Due.BAD;
-    private static final long NO = Due.NO;
-    private static final long FULL = Due.FULL;
-    private static final long OFF = Due.OFF;
-    private static final long NONE = Due.NONE;
-
-    private static final int LOWEST = Integer.MIN_VALUE;
-    private static final int HIGHEST = Integer.MAX_VALUE;
-
-    /** 16 corners; four times these are whole at many cuts. */
-    private static final int[] ROUND = {0, 0, 1, 0, 3, 1, 4, 2, 5, 4, 5, 5, 4, 7, 3, 8, 1, 9, 0, 9, -2, 8, -3, 7,
-        -4, 5, -4, 4, -3, 2, -2, 1};
-
-    private static int promise;
-
+public final class PromisesTest extends Checks {
     public static void main(String[] args) {
         newObject();
         corner();
@@ -49,45 +34,8 @@ public final class PromisesTest {
         Due.end();
     }
 
-    private static void due(String call, long got, long want) {
-        Due.due("promise " + promise + ": " + call, got, want);
-    }
-
-    private static long told(ScissorsBench bench, int k, int scale, int... corners) {
-        for (int i = 0; i < corners.length; i += 2) {
-            bench.corner(corners[i] * scale, corners[i + 1] * scale);
-        }
-        return bench.figure(k);
-    }
-
-    private static ScissorsBench begun(int scale, int... corners) {
-        ScissorsBench bench = new ScissorsBench();
-        told(bench, 0, scale, corners);
-        bench.begin(0);
-        return bench;
-    }
-
-    private static ScissorsBench box(int width, int height) {
-        return begun(1, 0, 0, width, 0, width, height, 0, height);
-    }
-
-    /** Corners of the place (what 0) or of the origin (what 2) of a piece. */
-    private static void dueCorners(ScissorsBench bench, int piece, int what, int... corners) {
-        due("about(" + piece + ", 0)", bench.about(piece, 0), corners.length / 2);
-        for (int i = 0; i < corners.length; i++) {
-            due("at(" + piece + ", " + i / 2 + ", " + (what + i % 2) + ")",
-                bench.at(piece, i / 2, what + i % 2), corners[i]);
-        }
-    }
-
-    private static void dueMove(ScissorsBench bench, int piece, int turn, int a, int b) {
-        due("TURN of " + piece, bench.about(piece, 2), turn);
-        due("a of " + piece, bench.about(piece, 3), a);
-        due("b of " + piece, bench.about(piece, 4), b);
-    }
-
     private static void newObject() {
-        promise = 1;
+        holds(1);
         ScissorsBench bench = new ScissorsBench();
         for (int what = 0; what <= 6; what++) {
             due("count(" + what + ")", bench.count(what), 0);
@@ -110,7 +58,7 @@ public final class PromisesTest {
     }
 
     private static void corner() {
-        promise = 2;
+        holds(2);
         ScissorsBench bench = new ScissorsBench();
         due("corner far right", bench.corner(100001, 0), BAD);
         due("corner far left", bench.corner(-100001, 0), BAD);
@@ -130,7 +78,7 @@ public final class PromisesTest {
     }
 
     private static void figure() {
-        promise = 3;
+        holds(3);
         ScissorsBench bench = new ScissorsBench();
         due("figure, begun anywhere", told(bench, 0, 1, 5, 1, 5, 6, 1, 6, 1, 1), 4);
         due("count(1)", bench.count(1), 0);
@@ -157,7 +105,7 @@ public final class PromisesTest {
     }
 
     private static void figureThatIsNoRing() {
-        promise = 3;
+        holds(3);
         ScissorsBench bench = new ScissorsBench();
         told(bench, 2, 1, 0, 0, 3, 0, 0, 3);
         due("no corners", bench.figure(2), NO);
@@ -182,7 +130,7 @@ public final class PromisesTest {
     }
 
     private static void area() {
-        promise = 4;
+        holds(4);
         ScissorsBench bench = new ScissorsBench();
         told(bench, 0, 1, -1, 0, 2, -2, 3, 5);
         due("area(0)", bench.area(0), 23);
@@ -195,7 +143,7 @@ public final class PromisesTest {
     }
 
     private static void begin() {
-        promise = 5;
+        holds(5);
         ScissorsBench bench = box(6, 4);
         told(bench, 1, 1, 0, 0, 3, 0, 0, 3);
         bench.cut(0, 0, 6, 4);
@@ -216,7 +164,7 @@ public final class PromisesTest {
     }
 
     private static void cut() {
-        promise = 6;
+        holds(6);
         ScissorsBench bench = box(6, 4);
         due("cut along a side", bench.cut(0, 0, 6, 0), 0);
         due("count(3): it is a change", bench.count(3), 2);
@@ -264,7 +212,7 @@ public final class PromisesTest {
     }
 
     private static void cutFullAndOff() {
-        promise = 6;
+        holds(6);
         ScissorsBench bench = box(5, 5);
         due("cut at no whole places", bench.cut(0, 1, 5, 2), 1);
         due("cut at one that is not whole", bench.cut(2, 0, 2, 5), OFF);
@@ -300,7 +248,7 @@ public final class PromisesTest {
     }
 
     private static void part() {
-        promise = 7;
+        holds(7);
         ScissorsBench bench = box(6, 4);
         bench.cut(2, 0, 2, 4);
         bench.aside(0, 0);
@@ -357,7 +305,7 @@ public final class PromisesTest {
     }
 
     private static void slide() {
-        promise = 8;
+        holds(8);
         ScissorsBench bench = begun(1, 0, 0, 4, 0, 0, 4);
         bench.aside(0, 1);
         due("slide", bench.slide(0, 3, -2), 0);
@@ -399,7 +347,7 @@ public final class PromisesTest {
     }
 
     private static void half() {
-        promise = 9;
+        holds(9);
         ScissorsBench bench = begun(1, 0, 0, 4, 0, 4, 1, 0, 3);
         due("half", bench.half(0, 10, 20), 0);
         dueCorners(bench, 0, 0, 6, 19, 10, 17, 10, 20, 6, 20);
@@ -430,7 +378,7 @@ public final class PromisesTest {
     }
 
     private static void join() {
-        promise = 10;
+        holds(10);
         ScissorsBench bench = box(6, 4);
         bench.cut(2, 0, 2, 4);
         bench.cut(4, 0, 4, 4);
@@ -503,7 +451,7 @@ public final class PromisesTest {
     }
 
     private static void joinFull() {
-        promise = 10;
+        holds(10);
         ScissorsBench bench = begun(8, ROUND);
         due("cut in two", bench.cut(8, 0, 0, 72), 1);
         due("corners of the one", bench.about(0, 0), 9);
@@ -528,7 +476,7 @@ public final class PromisesTest {
     }
 
     private static void aside() {
-        promise = 11;
+        holds(11);
         ScissorsBench bench = box(4, 4);
         due("no triangle", bench.aside(0, 1), NO);
         due("no triangle, on 0", bench.aside(0, 0), 0);
@@ -548,7 +496,7 @@ public final class PromisesTest {
     }
 
     private static void back() {
-        promise = 12;
+        holds(12);
         due("back() without pieces", new ScissorsBench().back(), 0);
         ScissorsBench bench = box(4, 4);
         bench.cut(0, 0, 4, 4);
@@ -572,7 +520,7 @@ public final class PromisesTest {
     }
 
     private static void undo() {
-        promise = 13;
+        holds(13);
         ScissorsBench bench = box(8, 4);
         bench.cut(2, 0, 2, 4);
         bench.slide(0, 0, 9);
@@ -659,7 +607,7 @@ public final class PromisesTest {
     }
 
     private static void redo() {
-        promise = 14;
+        holds(14);
         ScissorsBench bench = box(8, 4);
         due("redo() of nothing", bench.redo(), NO);
         bench.cut(2, 0, 2, 4);
@@ -705,20 +653,20 @@ public final class PromisesTest {
     }
 
     private static void isOf() {
-        promise = 15;
-        dueKinds(begun(1, 0, 0, 4, 0, 0, 4), 1, 1, 0, 0, 0);
-        dueKinds(box(4, 4), 1, 0, 1, 1, 0);
-        dueKinds(begun(1, 0, 0, 4, 1, 6, 4, 2, 3), 1, 0, 1, 0, 0);
-        dueKinds(begun(1, 0, 0, 4, 0, 6, 4, 2, 4), 1, 0, 1, 0, 0);
-        dueKinds(begun(1, 0, 0, 4, 2, 4, 6, 0, 4), 1, 0, 1, 0, 0);
-        dueKinds(begun(1, 0, 2, 2, 0, 4, 2, 2, 4), 1, 0, 1, 0, 0);
-        dueKinds(begun(1, 0, 0, 6, 0, 4, 4, 2, 4), 1, 0, 0, 0, 0);
-        dueKinds(begun(1, 0, 0, 6, 0, 6, 5, 0, 4), 1, 0, 0, 0, 0);
-        dueKinds(begun(1, 0, 0, 4, 0, 5, 2, 4, 4, 0, 4), 1, 0, 0, 0, 0);
+        holds(15);
+        dueKinds(begun(1, 0, 0, 4, 0, 0, 4), 0, 1, 1, 0, 0, 0);
+        dueKinds(box(4, 4), 0, 1, 0, 1, 1, 0);
+        dueKinds(begun(1, 0, 0, 4, 1, 6, 4, 2, 3), 0, 1, 0, 1, 0, 0);
+        dueKinds(begun(1, 0, 0, 4, 0, 6, 4, 2, 4), 0, 1, 0, 1, 0, 0);
+        dueKinds(begun(1, 0, 0, 4, 2, 4, 6, 0, 4), 0, 1, 0, 1, 0, 0);
+        dueKinds(begun(1, 0, 2, 2, 0, 4, 2, 2, 4), 0, 1, 0, 1, 0, 0);
+        dueKinds(begun(1, 0, 0, 6, 0, 4, 4, 2, 4), 0, 1, 0, 0, 0, 0);
+        dueKinds(begun(1, 0, 0, 6, 0, 6, 5, 0, 4), 0, 1, 0, 0, 0, 0);
+        dueKinds(begun(1, 0, 0, 4, 0, 5, 2, 4, 4, 0, 4), 0, 1, 0, 0, 0, 0);
         ScissorsBench bench = begun(1, 0, 0, 4, 0, 0, 4);
         bench.aside(0, 1);
         bench.half(0, 1, 1);
-        dueKinds(bench, 1, 1, 0, 0, 1);
+        dueKinds(bench, 0, 1, 1, 0, 0, 1);
         due("kind -1", bench.isOf(0, -1), BAD);
         due("kind 5", bench.isOf(0, 5), BAD);
         due("kind highest", bench.isOf(0, HIGHEST), BAD);
@@ -726,14 +674,8 @@ public final class PromisesTest {
         due("piece -1", bench.isOf(-1, 0), BAD);
     }
 
-    private static void dueKinds(ScissorsBench bench, int... kinds) {
-        for (int kind = 0; kind < kinds.length; kind++) {
-            due("isOf(0, " + kind + ")", bench.isOf(0, kind), kinds[kind]);
-        }
-    }
-
     private static void about() {
-        promise = 16;
+        holds(16);
         ScissorsBench bench = begun(1, 0, 0, 4, 0, 0, 5);
         bench.half(0, 7, 8);
         bench.aside(0, 1);
@@ -751,7 +693,7 @@ public final class PromisesTest {
     }
 
     private static void at() {
-        promise = 17;
+        holds(17);
         ScissorsBench bench = begun(1, 0, 0, 4, 0, 4, 2, 0, 5);
         bench.half(0, 10, 10);
         dueCorners(bench, 0, 0, 6, 8, 10, 5, 10, 10, 6, 10);
@@ -768,7 +710,7 @@ public final class PromisesTest {
     }
 
     private static void over() {
-        promise = 18;
+        holds(18);
         ScissorsBench bench = box(8, 4);
         bench.cut(4, 0, 4, 4);
         due("side to side", bench.over(0, 1), 0);
@@ -814,7 +756,7 @@ public final class PromisesTest {
     }
 
     private static void find() {
-        promise = 19;
+        holds(19);
         ScissorsBench bench = box(8, 4);
         bench.cut(4, 0, 4, 4);
         due("inside of the first", bench.find(1, 1), 0);
@@ -838,7 +780,7 @@ public final class PromisesTest {
     }
 
     private static void covers() {
-        promise = 20;
+        holds(20);
         ScissorsBench bench = box(8, 4);
         told(bench, 1, 1, 0, 0, 4, 0, 4, 8, 0, 8);
         told(bench, 2, 1, 0, 0, 16, 0, 16, 4, 0, 4);
@@ -894,7 +836,7 @@ public final class PromisesTest {
     }
 
     private static void sums() {
-        promise = 21;
+        holds(21);
         ScissorsBench bench = box(6, 4);
         due("sums() of a box", bench.sums(), 0);
         bench.cut(0, 0, 6, 4);
@@ -914,7 +856,7 @@ public final class PromisesTest {
     }
 
     private static void sum() {
-        promise = 22;
+        holds(22);
         ScissorsBench bench = begun(1, 0, 0, 12, 0, 6, 8);
         due("sum(0, 2), not asked for sums() before", bench.sum(0, 2), 12);
         dueSums(bench, 1, 0, 12, 3, -4, -2, 3, 4, -2);
@@ -939,15 +881,8 @@ public final class PromisesTest {
         dueSums(bench, 0, 1, -200000, 1, -1, -200000, 1, 0, 200000);
     }
 
-    private static void dueSums(ScissorsBench bench, int... want) {
-        due("sums()", bench.sums(), want.length / 3);
-        for (int i = 0; i < want.length; i++) {
-            due("sum(" + i / 3 + ", " + i % 3 + ")", bench.sum(i / 3, i % 3), want[i]);
-        }
-    }
-
     private static void shelve() {
-        promise = 23;
+        holds(23);
         ScissorsBench bench = new ScissorsBench();
         due("shelve without pieces", bench.shelve(3), 0);
         due("count(5)", bench.count(5), 1);
@@ -972,7 +907,7 @@ public final class PromisesTest {
     }
 
     private static void fetch() {
-        promise = 24;
+        holds(24);
         ScissorsBench bench = box(4, 4);
         bench.cut(0, 0, 4, 4);
         bench.half(0, 4, 4);
@@ -994,7 +929,7 @@ public final class PromisesTest {
     }
 
     private static void third() {
-        promise = 25;
+        holds(25);
         ScissorsBench bench = box(8, 4);
         bench.cut(4, 0, 4, 4);
         bench.slide(1, -4, 4);
@@ -1048,7 +983,7 @@ public final class PromisesTest {
     }
 
     private static void thirdRefused() {
-        promise = 25;
+        holds(25);
         ScissorsBench bench = begun(4, ROUND);
         told(bench, 1, 1, -100, -34, 200, 66, 200, 100, -100, 100);
         bench.shelve(0);
@@ -1112,7 +1047,7 @@ public final class PromisesTest {
     }
 
     private static void count() {
-        promise = 26;
+        holds(26);
         ScissorsBench bench = box(6, 4);
         told(bench, 4, 1, 0, 0, 4, 0, 0, 4);
         told(bench, 4, 1, 0, 0, 5, 0, 0, 5);
