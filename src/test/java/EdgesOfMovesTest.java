@@ -344,6 +344,12 @@ public final class EdgesOfMovesTest extends Checks {
         bench.cut(4, -4, 4, 8);
         due("the upper one straight", bench.join(1, 0), 5);
         dueCorners(bench, 0, 2, 0, 0, 4, -4, 8, 0, 8, 8, 0, 8);
+        bench = begun(1, ROUND);
+        bench.cut(1, 0, 0, 9);
+        due("none straight, though but a little bent", bench.join(0, 1), 16);
+        bench = begun(1, 0, 0, 1, -1, 1, 0, 0, 1);
+        bench.cut(0, 0, 1, 0);
+        due("as small as can be", bench.join(0, 1), 4);
         bench = begun(1, 0, 0, 6, 0, 0, 6);
         bench.cut(3, 0, 3, 3);
         bench.cut(0, 3, 3, 3);

@@ -13,6 +13,7 @@ public final class EdgesOfPiecesTest extends Checks {
         atEnds();
         overNumbers();
         overTouching();
+        overSideBySide();
         overByAGrain();
         overByLess();
         overWithoutCorners();
@@ -249,6 +250,32 @@ public final class EdgesOfPiecesTest extends Checks {
         dueOver("the line of a slanted side alone", bench, 0);
     }
 
+    /** A corner of piece 0 comes to each side of piece 1, which alone parts them then, and goes a grain on. */
+    private static void overSideBySide() {
+        says(18, "some place (not of whole GRAINS alone) is inside of both their PLACES");
+        Recipe pieces = () -> {
+            ScissorsBench bench = box(4, 4);
+            bench.cut(0, 2, 2, 4);
+            dueCorners(bench, 1, 0, 0, 0, 4, 0, 4, 4, 2, 4, 0, 2);
+            return bench;
+        };
+        int[][] ways = {{1, 2, 2, 0, 1}, {1, 6, 6, -1, 0}, {0, 3, 2, 0, -1}, {1, 1, 7, 1, -1}, {0, -2, -3, 1, 0}};
+        for (int side = 0; side < ways.length; side++) {
+            int[] way = ways[side];
+            ScissorsBench bench = pieces.make();
+            if (way[0] == 1) {
+                bench.half(0, way[1], way[2]);
+            } else {
+                bench.slide(0, way[1], way[2]);
+            }
+            dueOver("a corner on side " + side, bench, 0);
+            bench.slide(0, way[3], way[4]);
+            dueOver("a corner through side " + side, bench, 1);
+            bench.slide(0, -2 * way[3], -2 * way[4]);
+            dueOver("a corner before side " + side, bench, 0);
+        }
+    }
+
     private static void overByAGrain() {
         says(18, "Two PIECES LIE OVER one another, if some place (not of whole GRAINS alone) "
             + "is inside of both their PLACES.");
@@ -420,6 +447,13 @@ public final class EdgesOfPiecesTest extends Checks {
         told(bench, 1, 1, 0, 0, 4, 0, 4, 4, 1, 4);
         due("one corner outside", bench.covers(1), 1);
         says(20, "if all that are not SPARE lie within it (no corner outside)");
+        bench = begun(1, 0, 2, 2, 0, 4, 2, 2, 4);
+        int[][] within = {{1, 0, 4, 0, 4, 4, 1, 4}, {0, 1, 4, 1, 4, 4, 0, 4}, {0, 0, 3, 0, 3, 4, 0, 4},
+            {0, 0, 4, 0, 4, 3, 0, 3}, {0, 0, 4, 0, 4, 4, 0, 4}};
+        for (int i = 0; i < within.length; i++) {
+            told(bench, 1, 1, within[i]);
+            due("corner " + i + " of 4 outside by a grain", bench.covers(1), i < 4 ? 1 : 2000);
+        }
         bench = box(4, 4);
         bench.cut(0, 0, 4, 4);
         told(bench, 1, 1, 0, 0, 4, 0, 4, 4);
@@ -571,6 +605,16 @@ public final class EdgesOfPiecesTest extends Checks {
         bench.slide(1, -50, 7);
         due("count(0)", bench.count(0), 4);
         dueSums(bench, 1, 0, 12, 3, -4, -2, 3, 4, -2);
+
+        says(22, "Of direction i of those: what 0 s, 1 t, 2 its sum.");
+        bench = triangle();
+        due("sum(1, 2), not asked for sums() before", bench.sum(1, 2), 4);
+        bench.half(0, 0, 0);
+        due("sum(1, 2), not asked for sums() behind the turn", bench.sum(1, 2), -4);
+        bench.undo();
+        due("sum(1, 2), not asked for sums() behind undo()", bench.sum(1, 2), 4);
+        bench.aside(0, 1);
+        due("sum(1, 2), not asked for sums() behind aside()", bench.sum(1, 2), NONE);
     }
 
     private static void sumEnds() {

@@ -443,6 +443,12 @@ public final class EdgesOfPlansTest extends Checks {
             new int[] {-100, -25, 100, 25, 100, 100, -100, 100}, 1);
         dueBothWays("17 corners", round, new int[] {-100, -34, 200, 66, 200, 100, -100, 100}, FULL);
         dueBothWays("18 corners", round, new int[] {-100, -34, 14, 4, 17, 6, 40, 98, -100, 98}, FULL);
+        int[] one = {29, 5, 25, 17, 17, 25, 5, 29, -5, 29, -17, 25, -25, 17, -29, 5,
+            -29, -5, -25, -17, -17, -25, -5, -29, 5, -29, 17, -25, 25, -17, 29, -5};
+        int[] other = {30, 0, 27, 12, 22, 22, 12, 27, 0, 30, -12, 27, -22, 22, -27, 12,
+            -30, 0, -27, -12, -22, -22, -12, -27, 0, -30, 12, -27, 22, -22, 27, -12};
+        dueBothWays("32 corners, as many as can be", one, other, FULL);
+        dueBothWays("16 corners in 16", times(2, one), other, 1);
         dueBothWays("16 corners of 15 and 4", java.util.Arrays.copyOf(round, 30),
             new int[] {-100, -34, 200, 66, 200, 100, -100, 100}, 1);
     }
