@@ -18,6 +18,7 @@ public final class EdgesOfCutsTest extends Checks {
         cutNumbers();
         cutFull();
         fullOfCorners();
+        fullOfCornersOfAny();
         cutFirstReason();
         cutRefused();
         partNumbers();
@@ -352,6 +353,27 @@ public final class EdgesOfCutsTest extends Checks {
         ScissorsBench bench = begun(4, ROUND);
         bench.cut(8, 2, 0, 0);
         bench.slide(0, 15, 13);
+        return bench;
+    }
+
+    private static void fullOfCornersOfAny() {
+        says(6, "or more than 16 corners in any");
+        ScissorsBench bench = begun(4, ROUND);
+        bench.cut(0, 0, 8, 2);
+        due("corners of 0", bench.about(0, 0), 16);
+        bench.slide(1, 15, 13);
+        due("piece 0 alone", bench.part(0, 19, 14, 1, 4), FULL);
+        due("piece 1 alone", bench.part(1, 19, 14, 1, 4), OFF);
+        due("the first of two has 17", bench.cut(19, 14, 20, 18), FULL);
+        bench.slide(1, 0, 500);
+        due("the first of two has 17, the second is not crossed", bench.cut(19, 14, 20, 18), FULL);
+        due("the second of two has 17", triangleAndRound().cut(20, 18, 19, 14), FULL);
+        due("the second of two has 17, the first is not crossed", firstAway().cut(20, 18, 19, 14), FULL);
+    }
+
+    private static ScissorsBench firstAway() {
+        ScissorsBench bench = triangleAndRound();
+        bench.slide(0, 0, 500);
         return bench;
     }
 

@@ -408,7 +408,7 @@ public final class EdgesOfFiguresTest extends Checks {
         due("call 512", bench.count(1), 16);
         bench = strips(40);
         bench.shelve(0);
-        for (int call = 46; call <= 510; call++) {
+        for (int call = 47; call <= 510; call++) {
             bench.third(0);
         }
         due("call 511", bench.third(0), 40);

@@ -384,6 +384,14 @@ public final class EdgesOfMovesTest extends Checks {
         dueCorners(bench, 0, 0, 0, 0, 2, 0, 2, 4, 0, 4);
         dueCorners(bench, 1, 0, 2, 2, 4, 2, 4, 4, 2, 4);
         dueCorners(bench, 2, 0, 2, 0, 4, 0, 4, 2, 2, 2);
+        bench = box(4, 4);
+        bench.cut(2, 0, 2, 4);
+        bench.cut(0, 2, 4, 2);
+        due("join(2, 0): it, too, but two others with it", bench.join(2, 0), 4);
+        due("count(0)", bench.count(0), 3);
+        dueCorners(bench, 0, 0, 2, 2, 4, 2, 4, 4, 2, 4);
+        dueCorners(bench, 1, 0, 0, 0, 2, 0, 2, 4, 0, 4);
+        dueCorners(bench, 2, 0, 2, 0, 4, 0, 4, 2, 2, 2);
         bench = strips(40);
         for (int i = 39; i > 0; i--) {
             due("join(0, 1) of " + (i + 1), bench.join(0, 1), 4);

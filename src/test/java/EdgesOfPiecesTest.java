@@ -70,6 +70,7 @@ public final class EdgesOfPiecesTest extends Checks {
         says(15, "2 SLAB: four, and two pairs of sides that face each other and are alike");
         dueKinds(begun(1, 0, 0, 8, 0, 6, 3, 2, 3), 0, 1, 0, 0, 0, 0);
         dueKinds(begun(1, 0, 0, 8, 0, 6, 3, 0, 3), 0, 1, 0, 0, 0, 0);
+        dueKinds(begun(1, 0, 2, 3, 0, 3, 8, 0, 6), 0, 1, 0, 0, 0, 0);
         dueKinds(begun(1, 0, 3, 2, 0, 4, 3, 2, 9), 0, 1, 0, 0, 0, 0);
         dueKinds(begun(1, 0, 0, 2, 0, 4, 2, 4, 4, 2, 4, 0, 2), 0, 1, 0, 0, 0, 0);
         dueKinds(begun(1, 0, 0, 4, 0, 5, 2, 4, 4, 0, 4), 0, 1, 0, 0, 0, 0);
@@ -524,6 +525,11 @@ public final class EdgesOfPiecesTest extends Checks {
         due("twice the area of 2", bench.about(2, 1), 2);
         bench.aside(2, 1);
         due("a grain of all is spare", bench.covers(0), 2000);
+        bench = box(1, 1);
+        bench.cut(0, 0, 1, 1);
+        due("half a grain and half a grain", bench.covers(0), 0);
+        bench.aside(1, 1);
+        due("half a grain is spare", bench.covers(0), 2000);
     }
 
     private static void coversFirst() {
